@@ -57,6 +57,7 @@ public final class PromiseTest {
         status();
         count();
         digest();
+        full();
         System.out.println("PromiseTest: " + right + " answers as due, " + wrong + " not");
         if (wrong != 0) System.exit(1);
     }
@@ -223,6 +224,12 @@ public final class PromiseTest {
         due(8, "alike", x.feud(2, 2, true), BAD);
         due(8, "family 4", x.feud(0, 4, true), BAD);
         due(8, "family -1", x.feud(-1, 0, true), BAD);
+        due(8, "family 4", x.feud(4, 0, true), BAD);
+        due(8, "family -1", x.feud(0, -1, true), BAD);
+        due(8, "family -1", x.feud(0, -1, false), BAD);
+        x.feud(1, 0, true);
+        due(8, "either way round", x.feud(1, 0, true), NO);
+        due(8, "either way round", x.feud(0, 1, true), NO);
     }
 
     private static void mark() {
@@ -257,6 +264,7 @@ public final class PromiseTest {
         due(12, "too early in an item", reads("street;house 1 2"), -26);
         due(12, "a word that is none", reads("stree;"), -10);
         due(12, "words that stand together", reads("streethouse;"), -10);
+        due(12, "z is a letter", reads("streetz;"), -10);
         due(12, "ahead of street", reads("house 1 1 1;street;"), -10);
         due(12, "; ahead of street", reads(" ;street;"), -11);
         due(12, "street again", reads("street; street;"), -18);
@@ -467,7 +475,7 @@ public final class PromiseTest {
     }
 
     private static void whatLeavesNothingToUndo() {
-        for (int what = 0; what < 9; what++) {
+        for (int what = 0; what < 10; what++) {
             HouseHeirs x = typed(line(3), "street;");
             x.year(2);
             long before = x.count(7);
@@ -480,6 +488,7 @@ public final class PromiseTest {
                 case 5: x.feud(0, 1, true); break;
                 case 6: x.mark(0, 0); break;
                 case 7: x.street(); break;
+                case 8: x.builtFrom(0, NONE); break;
                 default: x.read();
             }
             due(16, "there was some", before, 2);
@@ -557,6 +566,9 @@ public final class PromiseTest {
         due(19, "blood over a fallen one", x.degree(0, 2), 2);
         x.wall(3, 4, true);
         due(19, "no wall of a fallen one", x.degree(0, 4), NONE);
+        due(19, "nor from it", x.degree(3, 4), NONE);
+        x.fall(4);
+        due(19, "fallen, without kin", x.degree(4, 0), NONE);
         due(19, "no such house", x.degree(0, 5), BAD);
         due(19, "no such house", x.degree(-1, 0), BAD);
         due(19, "no such house", x.degree(BIG, BIG), BAD);
@@ -587,6 +599,15 @@ public final class PromiseTest {
         due(20, "dear, worth 99", x.rank(0, 1), 1);
         due(20, "dear, worth 9", x.rank(0, 2), 20);
         due(20, "dear, none by law", x.rank(0, 3), 1000);
+        x.will(3, 2);
+        x.wall(3, 1, true);
+        due(20, "dear, degree 2, worth 9", x.rank(3, 2), 20);
+        due(20, "dear, degree 2, worth 0", x.rank(3, 0), 20);
+        due(20, "dear, degree 1, worth 99", x.rank(3, 1), 1);
+        x.will(1, 2);
+        due(20, "dear, degree 1, worth 50", x.rank(1, 3), 5);
+        x.will(1, 0);
+        x.wall(3, 1, false);
         x.will(0, 3);
         due(20, "quiet", x.rank(0, 1), 1);
         due(20, "quiet, full", x.rank(0, 2), 1000);
@@ -604,6 +625,14 @@ public final class PromiseTest {
         due(20, "hoard, 9", x.rank(0, 3), 9);
         x.one(3, 3);
         due(20, "hoard, 9 less 2", x.rank(0, 3), 7);
+        HouseHeirs y = houses(2);
+        y.builtFrom(1, 0);
+        y.will(0, 3);
+        y.feud(0, 1, true);
+        y.one(1, 0);
+        due(20, "quiet, nobody there", y.rank(0, 1), 1);
+        y.one(0, 1);
+        due(20, "quiet, a feud", y.rank(0, 1), 1000);
         due(20, "alike", x.rank(0, 0), -1000);
         due(20, "no such house", x.rank(0, 4), -1000);
         due(20, "no such house", x.rank(-1, 0), -1000);
@@ -777,6 +806,12 @@ public final class PromiseTest {
         x.year(1);
         x.move(0, 1);
         due(27, "years from now, not THE YEAR", x.overfull(0), 59);
+        HouseHeirs y = new HouseHeirs();
+        y.house(1, 1, 1);
+        y.house(1, 1, 1);
+        for (int i = 0; i < 2; i++) y.one(0, 1);
+        for (int i = 0; i < 2; i++) y.one(0, 0);
+        due(27, "the lesser of two", y.overfull(1), 0);
     }
 
     private static void orders() {
@@ -840,6 +875,11 @@ public final class PromiseTest {
         due(29, "one stands: out", x.safe(1), 0);
         x.fall(2);
         due(29, "none stands", x.safe(1), 63);
+        HouseHeirs z = line(5);
+        z.one(0, 0);
+        due(29, "five houses, all kin", z.safe(0), 63);
+        z.builtFrom(4, NONE);
+        due(29, "only when all four others fall", z.safe(0), 48);
         HouseHeirs y = houses(2);
         y.one(0, 0);
         y.one(1, 1);
@@ -885,6 +925,14 @@ public final class PromiseTest {
         HouseHeirs z = new HouseHeirs();
         due(30, "no house", z.one(0, NONE), 0);
         due(30, "no house", z.moves(-1), NONE);
+        HouseHeirs u = houses(1);
+        u.one(1, 0);
+        u.feud(0, 1, true);
+        due(30, "no feud with nobody", u.moves(-1), 0);
+        u.feud(0, 1, false);
+        u.one(2, 0);
+        u.feud(1, 2, true);
+        due(30, "a feud, one house", u.moves(-1), NONE);
         HouseHeirs v = houses(2);
         v.one(0, 1);
         due(30, "fewest ahead of first", v.moves(0), 1);
@@ -954,6 +1002,10 @@ public final class PromiseTest {
         x.house(1, 1, 1);
         x.house(1, 1, 1);
         due(32, "d 8: 1 2 3 4", x.plaster(8, NONE), 24);
+        due(32, "4 by 3 alone, d 0", x.plaster(0, 4), 3);
+        HouseHeirs y = houses(3);
+        y.mark(0, 3);
+        due(32, "1 by none, 2 by 1", y.plaster(1, NONE), 0);
     }
 
     private static void gables() {
@@ -1005,6 +1057,18 @@ public final class PromiseTest {
         due(34, "none rests", y.doors(1, 2, 0, 1), NONE);
         due(34, "4, open, is 6, behind 1", y.doors(1, 4, 0, 0), 1);
         due(34, "4, open, is 6, behind 1", y.doors(1, 4, 0, 1), 0);
+        HouseHeirs z = houses(3);
+        z.one(0, 0);
+        z.one(0, 1);
+        z.one(0, 1);
+        due(34, "the second, full, gets 0 by opening: it may or not", z.doors(2, 1, 0, 0), 2);
+        due(34, "the first", z.doors(2, 1, 0, 1), 1);
+        HouseHeirs v = line(5);
+        v.one(0, 0);
+        due(34, "degree 4 less 3 is as degree 1: the lesser", v.doors(1, 4, 0, 0), 1);
+        due(34, "so nobody opens", v.doors(1, 4, 0, 1), 0);
+        v.will(0, 2);
+        due(34, "dear: 10 less 3 is not yet ahead of 5", v.doors(1, 2, 0, 0), 1);
     }
 
     private static void drawn() {
@@ -1077,6 +1141,7 @@ public final class PromiseTest {
         due(38, "the fraction is not kept", x.part(0), 25);
         due(38, "fallen there", x.of(2, 5), 0);
         due(38, "three to undo", x.count(7), 3);
+        imagePast();
         x.house(1, 1, 1);
         x.image(0);
         x.from(1);
@@ -1085,7 +1150,62 @@ public final class PromiseTest {
         due(37, "nothing to undo was kept", x.count(7), 0);
     }
 
+    /** What may be undone in an image is that of its street, whatever came since. */
+    private static void imagePast() {
+        HouseHeirs x = line(2);
+        x.one(0, 1);
+        x.year(1);
+        x.fall(1);
+        x.image(0);
+        x.year(20);
+        x.street();
+        x.house(1, 1, 1);
+        x.year(5);
+        x.fall(0);
+        x.from(0);
+        x.undo();
+        due(38, "it stood", x.of(1, 5), 1);
+        due(38, "one lived there", x.who(0, 1), 1);
+        due(38, "the year", x.count(6), 1);
+        due(38, "beams", x.of(1, 2), 11);
+        x.undo();
+        due(38, "the year ahead of it", x.count(6), 0);
+        due(38, "beams", x.of(0, 2), 10);
+        due(38, "no more", x.undo(), NO);
+    }
+
+    /** Every call that may be refused, refused once each: STATUS counts it as what it is. */
+    private static void statusOfEach() {
+        HouseHeirs x = houses(3);
+        x.fall(2);
+        x.one(0, 0);
+        int[] bads = {
+            x.house(0, 0, 0), x.builtFrom(9, 0), x.will(0, 9), x.wall(0, 0, true), x.one(9, 0), x.feud(0, 0, true),
+            x.mark(0, 256), x.type(128), x.fall(9), x.year(0), x.move(9, 0), x.of(0, 9), x.who(0, 9), x.degree(0, 9),
+            x.rank(0, 9), x.heir(9), x.wills(0, 9), x.buildFor(0, 9), x.adopts(0, 9), x.lives(0, 61), x.stand(61),
+            x.overfull(9), x.orders(0, 9, 0, 0), x.safe(9), x.moves(-2), x.share(9), x.plaster(9, 0), x.gables(9),
+            x.doors(0, 1, 9, 0), x.drawn(-1, 0), (int) x.part(9), x.image(9), x.from(9), x.status(9), x.count(9),
+            x.of(9, 0)};
+        due(39, "each BAD", x.status(0), bads.length);
+        due(39, "none NO", x.status(1), 0);
+        int[] nos = {
+            x.wall(0, 1, false), x.one(0, 2), x.feud(0, 1, false), x.fall(2), x.move(0, 2), x.adopts(0, 2),
+            x.doors(0, 1, 2, 0), x.from(0)};
+        x.mark(0, 0);
+        due(39, "each NO", x.status(1), nos.length);
+        due(39, "undo", x.undo(), NO);
+        due(39, "undo", x.status(1), nos.length + 1);
+        due(39, "no more BAD", x.status(0), bads.length);
+        x.house(1, 1, 1);
+        x.house(1, 1, 1);
+        for (int i = 1; i < 6; i++) x.one(0, 0);
+        for (int i = 0; i < 150; i++) x.type(0);
+        int[] fulls = {x.house(1, 1, 1), x.one(0, 0), x.type(0)};
+        due(39, "each FULL", x.status(2), fulls.length);
+    }
+
     private static void status() {
+        statusOfEach();
         HouseHeirs x = houses(5);
         x.house(1, 1, 1);
         x.house(0, 1, 1);
@@ -1145,6 +1265,34 @@ public final class PromiseTest {
         due(41, "all", x.digest(), chain(3, 2, 2, 1, 1, 1, 1, 2, 1,
             2, 3, 5, -1, 0, 1, 77, 5, 6, 7, 0, 0, 0, 0, 8, 9, 11, -1, 5, 1, 0,
             0, 1, 0, 1, 2, 2, -1, 0, 0, 0, 0, 1, 0, 3, 1));
+    }
+
+    /** A full street: five houses, six people. */
+    private static void full() {
+        HouseHeirs x = line(5);
+        for (int i = 0; i < 6; i++) x.one(i % 4, i % 5);
+        due(19, "degree", x.degree(0, 4), 4);
+        due(21, "heir", x.heir(4), 3);
+        due(22, "wills", x.wills(2, 1), 1 + 2 + 4 + 8 + 16);
+        due(22, "0 is full: not roomy, not quiet", x.wills(1, 0), 1 + 4 + 16 + 32);
+        due(23, "build", x.buildFor(4, 0), 4);
+        due(23, "build", x.buildFor(4, 1), 14);
+        due(23, "build never", x.buildFor(0, 4), NONE);
+        due(24, "adopts", x.adopts(0, 4), 1);
+        due(25, "lives", x.lives(5, 60), 0);
+        due(26, "stand", x.stand(60), 31);
+        due(27, "overfull", x.overfull(0), NONE);
+        due(28, "orders", x.orders(30, 4, 0, -1), 24);
+        due(29, "safe", x.safe(5), 1 + 4 + 16 + 32);
+        due(30, "moves", x.moves(5), 0);
+        due(31, "share", x.share(2), 2);
+        due(32, "plaster", x.plaster(8, NONE), 24);
+        due(33, "gables", x.gables(0), 0);
+        due(34, "3 opens: two come, one too many", x.doors(3, 4, 0, 1), 10);
+        due(35, "drawn", x.drawn(77, 5), 6);
+        due(40, "walls", x.count(4), 0);
+        due(13, "fall", x.fall(4), 3);
+        due(14, "year", x.year(20), 4);
     }
 
     private static long chain(int... values) {

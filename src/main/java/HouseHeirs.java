@@ -626,7 +626,6 @@ public final class HouseHeirs {
             from[house] = NONE;
             will[house] = LAW;
             marks[house] = 0;
-            walls[house] = 0;
             standing |= 1 << house;
             houses++;
             return house;
