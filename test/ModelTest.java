@@ -29,9 +29,11 @@ public final class ModelTest {
     }
 
     private void go() {
-        while (calls < CALLS && !failed) {
-            if (random.nextInt(60) == 0) typeStreet();
-            else if (model.w.houses.size() < 2 || random.nextInt(80) == 0) buildStreet();
+        // An object is used for at most 512 calls: a typed text is some 160 of them, a built street some 50.
+        while (calls < CALLS - 2 && !failed) {
+            boolean few = model.w.houses.size() < 2;
+            if (calls < CALLS - 160 && random.nextInt(60) == 0) typeStreet();
+            else if (calls < CALLS - 50 && (few || random.nextInt(80) == 0)) buildStreet();
             else step(random.nextInt(100));
         }
     }
